@@ -623,7 +623,7 @@ public final class PromisesTest {
         due(1, e.agenda());
         due(4, e.factAt(0, 0));
 
-        part("promise 10, settled after every single change of a firing");
+        part("promise 10, a mark goes when another rule ends the instantiation");
         e = guarded();
         begin(e, -1, 0);
         e.make(1, num(0), num(0), num(0));
@@ -635,7 +635,7 @@ public final class PromisesTest {
         due(2, e.printed(-1));
         due(0, e.agenda());
 
-        part("promise 10, a firing that unmakes and remakes its own ground loses its mark");
+        part("promise 10, a firing that ends its own instantiation takes its mark away");
         e = withRule(0, 0, 1);
         e.condition(2, true);
         e.act(PRINT, num(6));
