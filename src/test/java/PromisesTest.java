@@ -1,66 +1,11 @@
 /** What each promise of the document asks, by hand: ordinary inputs, the edges it names, and wrong inputs. */
-public final class PromisesTest {
-    private static final int EQ = 0;
-    private static final int NE = 1;
-    private static final int LESS = 2;
-    private static final int BIND = 3;
-    private static final int DROP = 0;
-    private static final int PRINT = 1;
-    private static final int HALT = 2;
-
-    private static int wrong = 0;
-    private static String part = "";
-    private static int row = 0;
-
-    private static void part(String name) {
-        part = name;
-        row = 0;
+public final class PromisesTest extends Sheet {
+    public static void main(String[] args) throws IllegalAccessException {
+        runAll(PromisesTest.class);
     }
 
-    private static void due(int want, int got) {
-        row++;
-        if (got != want) {
-            wrong++;
-            System.out.println(part + ", row " + row + ": answered " + got + ", due is " + want);
-        }
-    }
-
-    private static void yes(boolean got) {
-        due(1, got ? 1 : 0);
-    }
-
-    private static void no(boolean got) {
-        due(0, got ? 1 : 0);
-    }
-
-    private static int num(int n) {
-        return 2 * n;
-    }
-
-    private static int var(int x) {
-        return 2 * x + 1;
-    }
-
-    /** The facts that the instantiation at place k gives, as the digits of one number; the rule stands before them. */
-    private static int at(ForwardRuleEngine e, int k) {
-        return e.ruleAt(k) * 1000 + e.factAt(k, 0) * 100 + e.factAt(k, 1) * 10 + e.factAt(k, 2);
-    }
-
-    private static ForwardRuleEngine withRule(int salience, int... positiveKinds) {
-        ForwardRuleEngine e = new ForwardRuleEngine();
-        begin(e, salience, positiveKinds);
-        return e;
-    }
-
-    private static void begin(ForwardRuleEngine e, int salience, int... positiveKinds) {
-        e.rule(salience);
-        for (int kind : positiveKinds) {
-            e.condition(kind, false);
-        }
-    }
-
-    private static void newObject() {
-        part("promise 1, a new object");
+    static void newObject() {
+        about("promise 1, a new object");
         ForwardRuleEngine e = new ForwardRuleEngine();
         due(0, e.facts());
         due(0, e.agenda());
@@ -83,13 +28,13 @@ public final class PromisesTest {
         due(0, other.agenda());
     }
 
-    private static void rule() {
-        part("promise 2, rule");
+    static void rule() {
+        about("promise 2, rule");
         ForwardRuleEngine e = new ForwardRuleEngine();
         due(-1, e.rule(-10));
         due(-1, e.rule(10));
-        due(-1, e.rule(Integer.MIN_VALUE));
-        due(-1, e.rule(Integer.MAX_VALUE));
+        due(-1, e.rule(MIN));
+        due(-1, e.rule(MAX));
         no(e.condition(0, false));
         due(0, e.rule(-9));
         due(-1, e.rule(0));
@@ -117,8 +62,8 @@ public final class PromisesTest {
         due(0, e.ruleAt(3));
     }
 
-    private static void condition() {
-        part("promise 3, condition");
+    static void condition() {
+        about("promise 3, condition");
         ForwardRuleEngine e = new ForwardRuleEngine();
         no(e.condition(0, false));
         no(e.condition(0, true));
@@ -144,7 +89,7 @@ public final class PromisesTest {
         e.add(1, 0, 0, 0);
         due(0, e.agenda());
 
-        part("promise 3, condition after an action");
+        about("promise 3, condition after an action");
         e = withRule(0, 0);
         yes(e.act(HALT, 0));
         no(e.condition(0, false));
@@ -155,7 +100,7 @@ public final class PromisesTest {
         due(2, e.agenda());
         due(0, e.factAt(0, 1));
 
-        part("promise 3, limits of one sort leave the other sort free");
+        about("promise 3, limits of one sort leave the other sort free");
         e = withRule(0, 0, 0, 0);
         no(e.condition(0, false));
         yes(e.condition(1, true));
@@ -172,8 +117,8 @@ public final class PromisesTest {
         no(e.condition(0, false));
     }
 
-    private static void testRefusals() {
-        part("promise 4, test refusals");
+    static void testRefusals() {
+        about("promise 4, test refusals");
         ForwardRuleEngine e = new ForwardRuleEngine();
         no(e.test(0, EQ, num(0)));
         e.rule(0);
@@ -188,8 +133,8 @@ public final class PromisesTest {
         no(e.test(0, EQ, var(0)));
         no(e.test(0, EQ, var(-1)));
         no(e.test(0, EQ, var(4)));
-        no(e.test(0, NE, var(Integer.MAX_VALUE / 2)));
-        no(e.test(0, LESS, Integer.MIN_VALUE + 1));
+        no(e.test(0, NE, var(MAX / 2)));
+        no(e.test(0, LESS, MIN + 1));
         yes(e.test(0, BIND, 2));
         no(e.test(1, BIND, 2));
         no(e.test(0, EQ, var(1)));
@@ -202,7 +147,7 @@ public final class PromisesTest {
         no(e.test(0, BIND, 0));
         no(e.test(0, EQ, var(0)));
         yes(e.test(0, EQ, var(2)));
-        yes(e.test(0, EQ, Integer.MIN_VALUE));
+        yes(e.test(0, EQ, MIN));
         e.condition(0, false);
         no(e.test(0, BIND, 2));
         yes(e.test(0, BIND, 0));
@@ -215,7 +160,7 @@ public final class PromisesTest {
         yes(e.finish());
         no(e.test(0, EQ, num(0)));
 
-        part("promise 4, the variables of one rule are not those of the next");
+        about("promise 4, the variables of one rule are not those of the next");
         begin(e, 0, 0);
         no(e.test(0, EQ, var(2)));
         yes(e.test(0, BIND, 2));
@@ -230,8 +175,8 @@ public final class PromisesTest {
         return e.agenda();
     }
 
-    private static void testComparisons() {
-        part("promise 4, comparisons with a number");
+    static void testComparisons() {
+        about("promise 4, comparisons with a number");
         due(1, matching(EQ, num(7), 7));
         due(0, matching(EQ, num(7), 8));
         due(1, matching(EQ, num(-7), -7));
@@ -240,12 +185,12 @@ public final class PromisesTest {
         due(1, matching(LESS, num(7), 6));
         due(0, matching(LESS, num(7), 7));
         due(0, matching(LESS, num(7), 8));
-        due(1, matching(LESS, num(-3), Integer.MIN_VALUE));
-        due(0, matching(LESS, num(-3), Integer.MAX_VALUE));
-        due(1, matching(EQ, Integer.MIN_VALUE, Integer.MIN_VALUE / 2));
-        due(1, matching(EQ, Integer.MAX_VALUE - 1, Integer.MAX_VALUE / 2));
+        due(1, matching(LESS, num(-3), MIN));
+        due(0, matching(LESS, num(-3), MAX));
+        due(1, matching(EQ, MIN, MIN / 2));
+        due(1, matching(EQ, MAX - 1, MAX / 2));
 
-        part("promise 4, every field is tested as its own");
+        about("promise 4, every field is tested as its own");
         ForwardRuleEngine e = withRule(0, 0);
         e.test(0, EQ, num(1));
         e.test(1, EQ, num(2));
@@ -260,7 +205,7 @@ public final class PromisesTest {
         e.add(0, 1, 2, 3);
         due(1, e.agenda());
 
-        part("promise 4, a variable within its own condition");
+        about("promise 4, a variable within its own condition");
         e = withRule(0, 0);
         e.test(0, BIND, 3);
         e.test(1, EQ, var(3));
@@ -275,8 +220,8 @@ public final class PromisesTest {
         due(3, e.factAt(0, 0));
     }
 
-    private static void joins() {
-        part("promise 4, a variable over several conditions");
+    static void joins() {
+        about("promise 4, a variable over several conditions");
         ForwardRuleEngine e = withRule(0, 0);
         e.test(2, BIND, 0);
         e.condition(1, true);
@@ -309,8 +254,8 @@ public final class PromisesTest {
         due(2, e.printed(1));
     }
 
-    private static void make() {
-        part("promise 5, make refusals");
+    static void make() {
+        about("promise 5, make refusals");
         ForwardRuleEngine e = new ForwardRuleEngine();
         no(e.make(0, 0, 0, 0));
         e.rule(0);
@@ -330,13 +275,13 @@ public final class PromisesTest {
         no(e.make(1, 0, 0, var(4)));
         yes(e.test(2, EQ, num(3)));
         yes(e.make(3, var(1), num(-5), var(0)));
-        yes(e.make(2, num(1), var(1), Integer.MIN_VALUE));
+        yes(e.make(2, num(1), var(1), MIN));
         yes(e.make(1, var(0), num(0), num(0)));
         yes(e.make(0, num(0), num(0), num(0)));
         no(e.make(0, num(0), num(0), num(0)));
         yes(e.finish());
         no(e.make(0, 0, 0, 0));
-        part("promise 5, what is made");
+        about("promise 5, what is made");
         e.add(0, 11, 12, 3);
         due(1, e.run(1));
         due(5 + 8 * 5, e.facts());
@@ -348,12 +293,12 @@ public final class PromisesTest {
         due(2, e.fact(2, 1));
         due(1, e.fact(2, 2));
         due(11, e.fact(2, 3));
-        due(Integer.MIN_VALUE / 2, e.fact(2, 4));
+        due(MIN / 2, e.fact(2, 4));
         due(1, e.fact(3, 1));
         due(12, e.fact(3, 2));
         due(0, e.fact(4, 1));
 
-        part("promise 5, nothing is made where 6 are there");
+        about("promise 5, nothing is made where 6 are there");
         e = withRule(0, 0);
         e.make(1, num(1), num(0), num(0));
         e.act(DROP, 0);
@@ -368,8 +313,8 @@ public final class PromisesTest {
         due(2, e.fact(5, 2));
     }
 
-    private static void act() {
-        part("promise 6, act refusals");
+    static void act() {
+        about("promise 6, act refusals");
         ForwardRuleEngine e = new ForwardRuleEngine();
         no(e.act(HALT, 0));
         e.rule(0);
@@ -397,7 +342,7 @@ public final class PromisesTest {
         no(e.act(PRINT, 0));
         yes(e.finish());
         no(e.act(HALT, 0));
-        part("promise 6, what is dropped and printed");
+        about("promise 6, what is dropped and printed");
         e.add(0, 41, 0, 0);
         e.add(0, 42, 0, 0);
         due(220, at(e, 0));
@@ -408,7 +353,7 @@ public final class PromisesTest {
         due(1 + 16, e.facts());
         due(41, e.fact(0, 2));
 
-        part("promise 6, a refused HALT does not halt");
+        about("promise 6, a refused HALT does not halt");
         e = withRule(0, 0);
         e.act(PRINT, 0);
         e.act(PRINT, 0);
@@ -421,8 +366,8 @@ public final class PromisesTest {
         due(2, e.run(9));
     }
 
-    private static void actionsInOrder() {
-        part("promise 6, actions after HALT are done");
+    static void actionsInOrder() {
+        about("promise 6, actions after HALT are done");
         ForwardRuleEngine e = withRule(0, 0);
         e.act(HALT, 0);
         e.act(PRINT, num(1));
@@ -439,7 +384,7 @@ public final class PromisesTest {
         due(1, e.run(20));
         due(4, e.printed(-1));
 
-        part("promise 6, DROP never takes a newer fact for the one that is gone");
+        about("promise 6, DROP never takes a newer fact for the one that is gone");
         e = withRule(0, 0, 0);
         e.test(0, BIND, 0);
         e.act(DROP, 0);
@@ -454,7 +399,7 @@ public final class PromisesTest {
         due(8, e.fact(0, 2));
         due(8, e.printed(0));
 
-        part("promise 6, variables keep their values while the facts change");
+        about("promise 6, variables keep their values while the facts change");
         e = withRule(0, 0);
         e.test(0, BIND, 0);
         e.act(DROP, 0);
@@ -469,8 +414,8 @@ public final class PromisesTest {
         due(8, e.fact(1, 4));
     }
 
-    private static void finish() {
-        part("promise 7, finish");
+    static void finish() {
+        about("promise 7, finish");
         ForwardRuleEngine e = new ForwardRuleEngine();
         no(e.finish());
         e.add(0, 0, 0, 0);
@@ -487,7 +432,7 @@ public final class PromisesTest {
         due(2, e.agenda());
         no(e.finish());
         due(1, e.run(1));
-        part("promise 7, a rule begun later leaves the marks alone");
+        about("promise 7, a rule begun later leaves the marks alone");
         due(1, e.rule(0));
         due(1, e.agenda());
         no(e.finish());
@@ -501,14 +446,14 @@ public final class PromisesTest {
         due(0, e.agenda());
     }
 
-    private static void add() {
-        part("promise 8, add");
+    static void add() {
+        about("promise 8, add");
         ForwardRuleEngine e = new ForwardRuleEngine();
         due(0, e.add(-1, 0, 0, 0));
         due(0, e.add(4, 0, 0, 0));
         due(0, e.facts());
         for (int i = 1; i <= 6; i++) {
-            due(i, e.add(3, i, -i, Integer.MIN_VALUE));
+            due(i, e.add(3, i, -i, MIN));
         }
         due(0, e.add(0, 0, 0, 0));
         due(6 + 8 * 6, e.facts());
@@ -521,8 +466,8 @@ public final class PromisesTest {
         due(3, e.fact(1, 0));
     }
 
-    private static void remove() {
-        part("promise 9, remove");
+    static void remove() {
+        about("promise 9, remove");
         ForwardRuleEngine e = new ForwardRuleEngine();
         no(e.remove(0));
         e.add(0, 1, 0, 0);
@@ -530,7 +475,7 @@ public final class PromisesTest {
         no(e.remove(0));
         no(e.remove(3));
         no(e.remove(-1));
-        no(e.remove(Integer.MIN_VALUE));
+        no(e.remove(MIN));
         due(2 + 16, e.facts());
         yes(e.remove(1));
         no(e.remove(1));
@@ -543,8 +488,8 @@ public final class PromisesTest {
         due(1 + 24, e.facts());
     }
 
-    private static void run() {
-        part("promise 10, run");
+    static void run() {
+        about("promise 10, run");
         ForwardRuleEngine e = withRule(0, 0, 0);
         e.act(PRINT, num(1));
         e.finish();
@@ -555,8 +500,8 @@ public final class PromisesTest {
         due(0, e.run(0));
         due(0, e.run(-1));
         due(0, e.run(21));
-        due(0, e.run(Integer.MAX_VALUE));
-        due(0, e.run(Integer.MIN_VALUE));
+        due(0, e.run(MAX));
+        due(0, e.run(MIN));
         due(36, e.agenda());
         due(0, e.printed(-1));
         due(1, e.run(1));
@@ -567,7 +512,7 @@ public final class PromisesTest {
         due(0, e.run(20));
         due(36, e.printed(-1));
 
-        part("promise 10, a run that feeds itself ends at n");
+        about("promise 10, a run that feeds itself ends at n");
         e = withRule(0, 0);
         e.test(0, BIND, 0);
         e.act(DROP, 0);
@@ -580,7 +525,7 @@ public final class PromisesTest {
         due(20, e.printed(-1));
         due(1, e.agenda());
 
-        part("promise 10, HALT ends only the run it stands in");
+        about("promise 10, HALT ends only the run it stands in");
         e = withRule(5, 0);
         e.act(HALT, 0);
         e.finish();
@@ -593,37 +538,28 @@ public final class PromisesTest {
         due(2, e.run(20));
     }
 
-    private static ForwardRuleEngine guarded() {
-        ForwardRuleEngine e = withRule(0, 0);
-        e.condition(1, true);
-        e.act(PRINT, num(1));
-        e.finish();
-        e.add(0, 0, 0, 0);
-        return e;
-    }
-
-    private static void marks() {
-        part("promise 10, a mark stays while the instantiation exists");
+    static void marks() {
+        about("promise 10, a mark stays while the instantiation exists");
         ForwardRuleEngine e = guarded();
         due(1, e.run(5));
         due(0, e.run(5));
         e.add(2, 0, 0, 0);
         yes(e.remove(2));
         due(0, e.agenda());
-        part("promise 10, a mark goes with the instantiation");
+        about("promise 10, a mark goes with the instantiation");
         e.add(1, 0, 0, 0);
         due(0, e.agenda());
         yes(e.remove(3));
         due(1, e.agenda());
         due(1, e.run(5));
         due(0, e.agenda());
-        part("promise 10, a fact in place of another is a new one");
+        about("promise 10, a fact in place of another is a new one");
         yes(e.remove(1));
         e.add(0, 0, 0, 0);
         due(1, e.agenda());
         due(4, e.factAt(0, 0));
 
-        part("promise 10, a mark goes when another rule ends the instantiation");
+        about("promise 10, a mark goes when another rule ends the instantiation");
         e = guarded();
         begin(e, -1, 0);
         e.make(1, num(0), num(0), num(0));
@@ -635,7 +571,7 @@ public final class PromisesTest {
         due(2, e.printed(-1));
         due(0, e.agenda());
 
-        part("promise 10, a firing that ends its own instantiation takes its mark away");
+        about("promise 10, a firing that ends its own instantiation takes its mark away");
         e = withRule(0, 0, 1);
         e.condition(2, true);
         e.act(PRINT, num(6));
@@ -648,7 +584,7 @@ public final class PromisesTest {
         due(1, e.agenda());
         due(1, e.run(5));
 
-        part("promise 10, the mark is there while the actions are done");
+        about("promise 10, the mark is there while the actions are done");
         e = withRule(0, 0);
         e.make(0, num(0), num(0), num(0));
         e.finish();
@@ -660,8 +596,8 @@ public final class PromisesTest {
         due(0, e.agenda());
     }
 
-    private static void agenda() {
-        part("promise 11, agenda");
+    static void agenda() {
+        about("promise 11, agenda");
         ForwardRuleEngine e = withRule(0, 0, 0, 0);
         e.finish();
         due(0, e.agenda());
@@ -682,8 +618,8 @@ public final class PromisesTest {
         due(2, e.ruleAt(15));
     }
 
-    private static void orderBySalience() {
-        part("promise 12, order by salience");
+    static void orderBySalience() {
+        about("promise 12, order by salience");
         ForwardRuleEngine e = withRule(-9, 0);
         e.test(0, BIND, 0);
         e.finish();
@@ -699,8 +635,8 @@ public final class PromisesTest {
         due(-1000, at(e, 3));
     }
 
-    private static void orderByFacts() {
-        part("promise 12, order by the facts from the greatest to the least");
+    static void orderByFacts() {
+        about("promise 12, order by the facts from the greatest to the least");
         ForwardRuleEngine e = withRule(0, 0);
         e.test(0, BIND, 0);
         e.test(1, BIND, 1);
@@ -721,7 +657,7 @@ public final class PromisesTest {
         due(1110, at(e, 5));
         due(100, at(e, 6));
 
-        part("promise 12, order by the third fact and then by the longer list");
+        about("promise 12, order by the third fact and then by the longer list");
         e = withRule(0, 0, 0);
         e.finish();
         begin(e, 0, 0, 0, 0);
@@ -744,8 +680,8 @@ public final class PromisesTest {
         due(-1000, at(e, 12));
     }
 
-    private static void orderByTests() {
-        part("promise 12, order by the number of tests, then by the rule");
+    static void orderByTests() {
+        about("promise 12, order by the number of tests, then by the rule");
         ForwardRuleEngine e = withRule(0, 0);
         e.finish();
         begin(e, 0, 0);
@@ -764,7 +700,7 @@ public final class PromisesTest {
         due(1, e.ruleAt(1));
         due(3, e.ruleAt(2));
         due(0, e.ruleAt(3));
-        part("promise 12, the rule goes before the facts in the order of the conditions");
+        about("promise 12, the rule goes before the facts in the order of the conditions");
         e = withRule(0, 0, 1);
         e.finish();
         begin(e, 0, 1, 0);
@@ -775,8 +711,8 @@ public final class PromisesTest {
         due(1210, at(e, 1));
     }
 
-    private static void places() {
-        part("promise 12 and 13, places");
+    static void places() {
+        about("promise 12 and 13, places");
         ForwardRuleEngine e = withRule(0, 0, 0, 0);
         e.finish();
         due(-1, e.ruleAt(0));
@@ -787,20 +723,20 @@ public final class PromisesTest {
         due(0, e.ruleAt(15));
         due(-1, e.ruleAt(16));
         due(-1, e.ruleAt(-1));
-        due(-1, e.ruleAt(Integer.MIN_VALUE));
-        due(-1, e.ruleAt(Integer.MAX_VALUE));
+        due(-1, e.ruleAt(MIN));
+        due(-1, e.ruleAt(MAX));
         due(3, e.factAt(0, 0));
         due(3, e.factAt(0, 2));
         due(0, e.factAt(0, 3));
         due(0, e.factAt(0, -1));
-        due(0, e.factAt(0, Integer.MAX_VALUE));
-        due(0, e.factAt(0, Integer.MIN_VALUE));
+        due(0, e.factAt(0, MAX));
+        due(0, e.factAt(0, MIN));
         due(1, e.factAt(15, 0));
         due(2, e.factAt(15, 1));
         due(3, e.factAt(15, 2));
         due(0, e.factAt(16, 0));
         due(0, e.factAt(-1, 0));
-        part("promise 13, numbers count and not the age of a slot");
+        about("promise 13, numbers count and not the age of a slot");
         e = withRule(0, 0, 1);
         e.condition(1, true);
         e.test(0, EQ, num(1));
@@ -820,8 +756,8 @@ public final class PromisesTest {
         due(-1, e.ruleAt(1));
     }
 
-    private static void factsAndFact() {
-        part("promise 14, facts");
+    static void factsAndFact() {
+        about("promise 14, facts");
         ForwardRuleEngine e = new ForwardRuleEngine();
         due(0, e.facts());
         e.add(2, 10, 20, 30);
@@ -834,7 +770,7 @@ public final class PromisesTest {
         e.add(3, 4, 5, 6);
         due(35, e.facts());
 
-        part("promise 15, fact");
+        about("promise 15, fact");
         int[][] there = {{2, 1, -1, -2, -3}, {3, 0, 7, 8, 9}, {4, 3, 4, 5, 6}};
         for (int i = 0; i < 3; i++) {
             for (int what = 0; what < 5; what++) {
@@ -843,18 +779,18 @@ public final class PromisesTest {
         }
         due(-1, e.fact(0, 5));
         due(-1, e.fact(0, -1));
-        due(-1, e.fact(0, Integer.MAX_VALUE));
-        due(-1, e.fact(0, Integer.MIN_VALUE));
+        due(-1, e.fact(0, MAX));
+        due(-1, e.fact(0, MIN));
         due(-1, e.fact(3, 0));
         due(-1, e.fact(3, 1));
         due(-1, e.fact(-1, 0));
         due(-1, e.fact(6, 2));
-        due(-1, e.fact(Integer.MAX_VALUE, 2));
-        due(-1, e.fact(Integer.MIN_VALUE, 2));
+        due(-1, e.fact(MAX, 2));
+        due(-1, e.fact(MIN, 2));
     }
 
-    private static void printed() {
-        part("promise 16, printed");
+    static void printed() {
+        about("promise 16, printed");
         ForwardRuleEngine e = withRule(0, 0);
         e.test(0, BIND, 0);
         e.act(PRINT, var(0));
@@ -881,35 +817,7 @@ public final class PromisesTest {
         due(0, e.printed(16));
         due(0, e.printed(17));
         due(0, e.printed(-2));
-        due(0, e.printed(Integer.MAX_VALUE));
-        due(0, e.printed(Integer.MIN_VALUE));
-    }
-
-    public static void main(String[] args) {
-        newObject();
-        rule();
-        condition();
-        testRefusals();
-        testComparisons();
-        joins();
-        make();
-        act();
-        actionsInOrder();
-        finish();
-        add();
-        remove();
-        run();
-        marks();
-        agenda();
-        orderBySalience();
-        orderByFacts();
-        orderByTests();
-        places();
-        factsAndFact();
-        printed();
-        System.out.println(wrong == 0 ? "all answers are as due" : wrong + " answers are not as due");
-        if (wrong != 0) {
-            System.exit(1);
-        }
+        due(0, e.printed(MAX));
+        due(0, e.printed(MIN));
     }
 }
