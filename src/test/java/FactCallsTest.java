@@ -75,11 +75,19 @@ public final class FactCallsTest extends Sheet {
     static void p1ObjectsAreApart() {
         about("promise 1: No rules, no facts, nothing printed: whatever other objects have");
         ForwardRuleEngine before = new ForwardRuleEngine();
-        String empty = view(before);
         ForwardRuleEngine other = new ForwardRuleEngine();
         busyAndFull(other);
-        same(empty, view(before));
-        same(empty, view(new ForwardRuleEngine()));
+        ForwardRuleEngine[] fresh = {before, new ForwardRuleEngine()};
+        for (ForwardRuleEngine e : fresh) {
+            due(0, e.agenda());
+            due(0, e.facts());
+            due(-1, e.fact(0, 0));
+            due(0, e.printed(-1));
+            due(0, e.printed(0));
+            due(0, e.rule(0));
+            due(1, e.add(0, 0, 0, 0));
+        }
+        due(6 + 8 * 6, other.facts());
     }
 
     // Promise 8: add
@@ -96,6 +104,10 @@ public final class FactCallsTest extends Sheet {
             due(0, e.fact(i - 1, 3));
             due(MAX - i, e.fact(i - 1, 4));
         }
+        yes(e.remove(3));
+        yes(e.remove(6));
+        due(7, e.add(0, 0, 0, 0));
+        due(8, e.add(0, 0, 0, 0));
     }
 
     static void p8KindOutside() {

@@ -24,9 +24,26 @@ public final class RuleCallsTest extends Sheet {
         e.run(1);
     }
 
+    /** A rule under construction that has bound the variables 0 and 3. */
+    private static void variablesAtTheEnds(ForwardRuleEngine e) {
+        begin(e, 0, 0, 1);
+        e.test(0, BIND, 0);
+        e.test(1, BIND, 3);
+    }
+
     private static void negatedOnly(ForwardRuleEngine e) {
         e.rule(0);
-        e.condition(2, true);
+        e.condition(3, true);
+    }
+
+    private static void withoutAPositiveCondition(Consumer<ForwardRuleEngine> refused) {
+        changesNothing(e -> e.rule(0), refused);
+        changesNothing(RuleCallsTest::negatedOnly, refused);
+        changesNothing(e -> {
+            finished(e);
+            negatedOnly(e);
+            e.condition(3, true);
+        }, refused);
     }
 
     // Promise 2: rule
@@ -190,13 +207,21 @@ public final class RuleCallsTest extends Sheet {
             e.condition(0, false);
             e.condition(0, false);
             e.condition(1, false);
-            e.condition(2, true);
+            e.condition(3, true);
         }, refused);
         ForwardRuleEngine e = withRule(0, 0, 1);
         yes(e.condition(0, false));
         no(e.condition(0, false));
         yes(e.condition(3, true));
         yes(e.condition(3, true));
+        no(e.condition(0, false));
+        yes(e.finish());
+        negatedOnly(e);
+        yes(e.condition(3, true));
+        yes(e.condition(0, false));
+        yes(e.condition(0, false));
+        yes(e.condition(0, false));
+        no(e.condition(0, false));
     }
 
     static void p3TwoNegatedAlready() {
@@ -212,8 +237,12 @@ public final class RuleCallsTest extends Sheet {
         changesNothing(e -> {
             begin(e, 0, 0, 1);
             e.condition(3, true);
-            e.condition(2, true);
-            e.condition(0, false);
+            e.condition(3, true);
+        }, refused);
+        changesNothing(e -> {
+            negatedOnly(e);
+            e.condition(3, true);
+            e.condition(2, false);
         }, refused);
         ForwardRuleEngine e = new ForwardRuleEngine();
         negatedOnly(e);
@@ -337,6 +366,20 @@ public final class RuleCallsTest extends Sheet {
         }
     }
 
+    static void p4WithoutAConditionNoTestIsCounted() {
+        about("promise 4: False, changing nothing, if .. it has no condition: the order counts no test");
+        ForwardRuleEngine e = new ForwardRuleEngine();
+        e.rule(0);
+        noTest(e);
+        yes(e.condition(0, false));
+        yes(e.finish());
+        begin(e, 0, 0);
+        yes(e.test(0, EQ, num(0)));
+        yes(e.finish());
+        addFacts(e, 0);
+        order(e, 1100, 100, -1000);
+    }
+
     static void p4AfterAnAction() {
         about("promise 4: False, changing nothing, if .. it .. has an action");
         changesNothing(e -> {
@@ -356,7 +399,7 @@ public final class RuleCallsTest extends Sheet {
     private static void fourTests(ForwardRuleEngine e) {
         twoTests(e);
         e.test(2, LESS, num(9));
-        e.test(2, LESS, num(8));
+        e.test(2, LESS, num(3));
     }
 
     static void p4FourTestsAlready() {
@@ -458,11 +501,7 @@ public final class RuleCallsTest extends Sheet {
         };
         changesNothing(RuleCallsTest::twoTests, refused);
         changesNothing(RuleCallsTest::negatedOnly, refused);
-        changesNothing(e -> {
-            begin(e, 0, 0, 1);
-            e.test(0, BIND, 0);
-            e.test(1, BIND, 3);
-        }, refused);
+        changesNothing(RuleCallsTest::variablesAtTheEnds, refused);
     }
 
     static void p4VariableNotBoundYet() {
@@ -523,12 +562,7 @@ public final class RuleCallsTest extends Sheet {
 
     static void p5WithoutAPositiveCondition() {
         about("promise 5: False, changing nothing, if .. it has no positive condition");
-        changesNothing(e -> e.rule(0), RuleCallsTest::noMake);
-        changesNothing(RuleCallsTest::negatedOnly, RuleCallsTest::noMake);
-        changesNothing(e -> {
-            finished(e);
-            negatedOnly(e);
-        }, RuleCallsTest::noMake);
+        withoutAPositiveCondition(RuleCallsTest::noMake);
     }
 
     private static void fourPrints(ForwardRuleEngine e) {
@@ -583,15 +617,11 @@ public final class RuleCallsTest extends Sheet {
         about("promise 5: False, changing nothing, if .. an operand is a variable outside 0..3");
         changesNothing(RuleCallsTest::twoTests,
                 e -> noMakeWith(e, var(-1), var(4), var(-4), var(256), MIN + 1, MAX));
-        changesNothing(e -> {
-            begin(e, 0, 0, 1);
-            e.test(0, BIND, 0);
-            e.test(1, BIND, 3);
-        }, e -> noMakeWith(e, var(-1), var(4)));
+        changesNothing(RuleCallsTest::variablesAtTheEnds, e -> noMakeWith(e, var(-1), var(4)));
     }
 
     static void p5VariableNotBound() {
-        about("promise 5: False, changing nothing, if an operand is a variable .. not bound");
+        about("promise 5: False, changing nothing, if .. an operand is a variable .. not bound");
         changesNothing(RuleCallsTest::twoTests, e -> noMakeWith(e, var(2), var(3)));
         changesNothing(e -> {
             finished(e);
@@ -662,12 +692,7 @@ public final class RuleCallsTest extends Sheet {
 
     static void p6WithoutAPositiveCondition() {
         about("promise 6: False, changing nothing, if .. it has no positive condition");
-        changesNothing(e -> e.rule(0), RuleCallsTest::noAct);
-        changesNothing(RuleCallsTest::negatedOnly, RuleCallsTest::noAct);
-        changesNothing(e -> {
-            finished(e);
-            negatedOnly(e);
-        }, RuleCallsTest::noAct);
+        withoutAPositiveCondition(RuleCallsTest::noAct);
     }
 
     static void p6FourActionsAlready() {
@@ -723,11 +748,7 @@ public final class RuleCallsTest extends Sheet {
         about("promise 6: False, changing nothing, if .. the operand of PRINT is a variable outside 0..3");
         changesNothing(RuleCallsTest::twoTests,
                 e -> noPrintOf(e, var(-1), var(4), var(-4), var(256), MIN + 1, MAX));
-        changesNothing(e -> {
-            begin(e, 0, 0, 1);
-            e.test(0, BIND, 0);
-            e.test(1, BIND, 3);
-        }, e -> noPrintOf(e, var(-1), var(4)));
+        changesNothing(RuleCallsTest::variablesAtTheEnds, e -> noPrintOf(e, var(-1), var(4)));
     }
 
     static void p6VariableNotBound() {
@@ -769,6 +790,25 @@ public final class RuleCallsTest extends Sheet {
         due(1, e.rule(0));
     }
 
+    static void p7TakesPartWhileTheNextIsBuilt() {
+        about("promise 7: The rule .. takes part from now on: also while the next one is under construction");
+        ForwardRuleEngine e = new ForwardRuleEngine();
+        finishedRule(e, 0, 0);
+        finishedRule(e, 0, 0);
+        e.rule(0);
+        addFacts(e, 0);
+        order(e, 100, 1100, -1000);
+        e.condition(0, false);
+        addFacts(e, 0);
+        order(e, 200, 1200, 100, 1100, -1000);
+        yes(e.remove(1));
+        order(e, 200, 1200, -1000);
+        due(2, e.run(20));
+        due(0, e.agenda());
+        yes(e.finish());
+        order(e, 2200, -1000);
+    }
+
     static void p7OtherMarksStay() {
         about("promise 7: The rule .. takes part from now on: the marks of other rules stay");
         ForwardRuleEngine e = new ForwardRuleEngine();
@@ -791,13 +831,7 @@ public final class RuleCallsTest extends Sheet {
 
     static void p7WithoutAPositiveCondition() {
         about("promise 7: False, changing nothing, if .. it has no positive condition");
-        changesNothing(e -> e.rule(0), e -> no(e.finish()));
-        changesNothing(RuleCallsTest::negatedOnly, e -> no(e.finish()));
-        changesNothing(e -> {
-            finished(e);
-            negatedOnly(e);
-            e.condition(3, true);
-        }, e -> no(e.finish()));
+        withoutAPositiveCondition(e -> no(e.finish()));
         ForwardRuleEngine e = new ForwardRuleEngine();
         negatedOnly(e);
         no(e.finish());

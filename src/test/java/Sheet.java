@@ -23,7 +23,10 @@ abstract class Sheet {
     private static String part = "";
     private static int row = 0;
 
-    /** Begins a part; in the tests of boundary cases it is the sentence of the document that the part is about. */
+    /**
+     * Begins a part. In the tests of boundary cases its name is the sentence of the document that it is about, with
+     * two dots where words are left out, and after a colon the case where the sentence has more than one.
+     */
     static void about(String words) {
         part = words;
         parts++;

@@ -127,11 +127,11 @@ public final class TermsTest extends Sheet {
         about("A rule has a salience -9..9");
         ForwardRuleEngine e = new ForwardRuleEngine();
         finishedRule(e, -9, 0);
-        finishedRule(e, 9, 0);
-        finishedRule(e, -8, 0);
         finishedRule(e, 8, 0);
+        finishedRule(e, -8, 0);
+        finishedRule(e, 9, 0);
         addFacts(e, 0);
-        order(e, 1100, 3100, 2100, 100, -1000);
+        order(e, 3100, 1100, 2100, 100, -1000);
         for (int salience : outside(-9, 9)) {
             due(-1, new ForwardRuleEngine().rule(salience));
         }
@@ -479,9 +479,20 @@ public final class TermsTest extends Sheet {
         e.add(0, 4, 0, 0);
         due(1, e.agenda());
         order(e, 200);
-        begin(e, 0, 0);
+        e = withRule(0, 0);
         e.condition(0, true);
         e.finish();
+        addFacts(e, 0);
+        due(0, e.agenda());
+        e = withRule(0, 0, 1);
+        e.condition(1, true);
+        e.test(0, LESS, num(5));
+        e.finish();
+        addFacts(e, 0, 1);
+        due(0, e.agenda());
+        e.add(1, 5, 0, 0);
+        due(0, e.agenda());
+        yes(e.remove(2));
         due(1, e.agenda());
     }
 
