@@ -640,6 +640,47 @@ public final class TermsTest extends Sheet {
         order(e, 100);
     }
 
+    static void endedAndBackWithinOneRun() {
+        about("one that has ceased to exist and exists again later is not marked: both by firings of one run");
+        ForwardRuleEngine e = withRule(1, 0);
+        e.condition(1, true);
+        e.make(1, num(0), num(0), num(0));
+        e.act(PRINT, num(7));
+        e.finish();
+        begin(e, 0, 1);
+        e.act(DROP, 0);
+        e.finish();
+        addFacts(e, 0);
+        due(20, e.run(20));
+        due(10, e.printed(-1));
+        due(1 + 8 * 11, e.facts());
+        due(1, e.run(1));
+        due(11, e.printed(-1));
+        due(1, e.agenda());
+        due(1, e.ruleAt(0));
+        due(12, e.factAt(0, 0));
+    }
+
+    static void oneGuardForAnotherInOneFiring() {
+        about("one that has ceased to exist and exists again later is not marked: not while another fact ends it");
+        ForwardRuleEngine e = guarded();
+        due(1, e.run(20));
+        begin(e, -1, 1);
+        e.test(0, EQ, num(5));
+        e.act(DROP, 0);
+        e.make(1, num(6), num(0), num(0));
+        e.finish();
+        e.add(1, 5, 0, 0);
+        due(1, e.run(20));
+        due(0, e.agenda());
+        due(1, e.printed(-1));
+        yes(e.remove(3));
+        due(1, e.agenda());
+        order(e, 100);
+        due(1, e.run(20));
+        due(2, e.printed(-1));
+    }
+
     // ORDER
 
     static void theFirstWithoutMarkFires() {
